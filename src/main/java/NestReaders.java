@@ -231,9 +231,6 @@ public final class NestReaders {
             return SPENT;
         }
         int length = lengthsOf(reader).least(asked.held().takenByOne());
-        if (length > MOST_LISTED || k >= length) {
-            return NONE;
-        }
         return listingOf(reader).letterAt(length, 0, k);
     }
 
@@ -1566,7 +1563,7 @@ public final class NestReaders {
             this.reader = reader;
         }
 
-        /** Letter k of row i of a length, or NONE. */
+        /** Letter k of row i of a length, or NONE; NONE also of a length that is not listed. */
         int letterAt(int length, int i, int k) {
             if (length < 0 || length > MOST_LISTED || k < 0 || k >= length) {
                 return NONE;

@@ -225,10 +225,14 @@ public final class PromiseTest {
         faultIs(1, 1, "0 c to 0" + (char) 255, 8);
         faultIs(1, 1, "0 " + (char) 225 + " to 0", 2);
         faultIs(1, 1, "-1 c to 0", 0);
-        faultIs(1, 1, "0 c to 0:", 8);
         faultIs(1, 1, "0 c to 0/", 8);
         faultIs(1, 1, "0 `", 2);
         faultIs(1, 1, "0 {", 2);
+        faultIs(1, 1, "0 cz to 0", 2);
+        faultIs(1, 1, "0 ca to 0", 2);
+        faultIs(1, 1, "0 c to 09", 7);
+        faultIs(1, 1, "0 c to 0:", 8);
+        faultIs(1, 1, "9 c to 0", 0);
     }
 
     private static void faultSixteen() {
@@ -339,6 +343,8 @@ public final class PromiseTest {
         check.due("10 the last one", x.partner(19), 0);
         check.due("10 more than n are not looked at", x.row(7L << 6 | 2 << 3 | 2, 2), 1);
         check.due("10 letter 6", x.row(6L << 3, 2), UNKNOWN);
+        check.due("10 the first is 6", x.row(6, 1), UNKNOWN);
+        check.due("10 the first is 7", x.row(2 << 3 | 7, 2), UNKNOWN);
         check.due("10 letter 7", x.row(7L << 57, 20), UNKNOWN);
         check.due("10 all ones", x.row(-1L, 20), UNKNOWN);
         check.due("10 stays", x.count(0), 2);
@@ -354,9 +360,7 @@ public final class PromiseTest {
         NestReaders x = new NestReaders();
         check.due("11 no letters", x.partner(0), OUTSIDE);
         Check.row(x, "40125424053");
-        int[] partner = {-1, 6, 4, -1, 2, 1 - 1, -1, -1, 9, 8, -1};
-        partner[1] = 5;
-        partner[5] = 1;
+        int[] partner = {-1, 5, 4, -1, 2, 1, -1, -1, 9, 8, -1};
         for (int i = 0; i < partner.length; i++) {
             check.due("11 partner " + i, x.partner(i), partner[i]);
         }
@@ -495,6 +499,10 @@ public final class PromiseTest {
         check.due("15 the other stays", x.places(1), 3);
         x.reader(0, 3, 2, 1);
         check.due("15 more states", x.places(0), 3);
+        NestReaders y = new NestReaders();
+        Check.tell(y, "0 a to 0 put 0;0 b to 0 put 0;0 e take none to 0;0 f take none to 0;0 e take 0 to 0;0 f take 0 to 0");
+        y.moves(0);
+        check.due("15 also what opens behind no run", y.places(0), 3);
         everythingSpent();
     }
 
@@ -692,7 +700,9 @@ public final class PromiseTest {
         for (int r : WRONG_READERS) {
             check.due("20 unknown ahead", x.of(r, 9, -1, -1), UNKNOWN);
         }
+        check.due("20 five", x.of(0, 5, 0, 0), 0);
         x.drop(0, 0, 0, 0, 0);
+        check.due("20 five after a move less", x.of(0, 5, 0, 0), 1);
         check.due("20 after a move less", x.of(0, 2, 0, 0), 1);
         x.reader(0, 1, 1, 1);
         check.due("20 after all less", x.of(0, 2, 0, 0), NONE);
@@ -733,6 +743,17 @@ public final class PromiseTest {
         Check.row(x, "000000000010");
         for (int k = 0; k <= 12; k++) {
             check.due("21 b within " + k, x.watch(0, k), k < 11 ? 3 : 2);
+        }
+        for (String closes : new String[] {"e", "f"}) {
+            for (String opens : new String[] {"a", "b"}) {
+                x.reader(0, 3, 1, 4);
+                Check.tell(x, "0 " + opens + " to 0 put 0;0 " + closes + " take 0 to 1;1 e take none to 2");
+                x.moves(0);
+                Check.row(x, opens.equals("a") ? "0" : "1");
+                check.due("21 " + opens + " open for " + closes, x.watch(0, 1), 3);
+                Check.row(x, opens.equals("a") ? "1" : "0");
+                check.due("21 the other one open", x.watch(0, 1), 2);
+            }
         }
         x.reader(0, 3, 1, 4);
         Check.tell(x, "0 a to 0 put 0;0 b to 0 put 0;0 e take 0 to 1;1 f take 0 to 1;1 f take none to 2");
@@ -804,6 +825,7 @@ public final class PromiseTest {
         comparesAs(x, 1, 1, 1, 0, 1, NONE, 0);
         x.drop(1, 0, 5, 0, 0);
         comparesAs(x, 0, 0, 1, 0, 1, 2, 0);
+        bothChange();
         x = far(6);
         x.reader(0, 3, 2, 4);
         Check.tell(x, "1 f take 0 to 2;1 a to 0 put 0;0 b to 1 put 1;1 e take 1 to 1");
@@ -812,6 +834,19 @@ public final class PromiseTest {
         x.reader(0, 1, 1, 0);
         check.due("23 six against none", x.parted(), 6);
         check.due("24 none", x.both(), NONE);
+    }
+
+    /** What has been put together for both must not outlive a change of each of them. */
+    private static void bothChange() {
+        NestReaders x = two("0 c to 1", "0 d to 1");
+        comparesAs(x, 0, 0, 0, 1, 0, 1, NONE);
+        x.reader(0, 2, 1, 2);
+        x.reader(1, 2, 1, 2);
+        comparesAs(x, 1, 1, 1, 1, 0, NONE, NONE);
+        x.reader(1, 1, 1, 1);
+        comparesAs(x, 0, 1, 0, 1, 0, 0, NONE);
+        x.reader(0, 1, 1, 1);
+        comparesAs(x, 1, 1, 1, 0, 0, NONE, 0);
     }
 
     private static void count() {

@@ -28,9 +28,12 @@ public final class RandomTest {
         for (int round = 0; round < 20 * rounds; round++) {
             tryFar("sparse " + round);
         }
-        check.yes("places are spent now and then: " + spentSeen, spentSeen > 0);
-        check.yes("and not spent: " + placesSeen, placesSeen > 0);
-        check.yes("rows of more than 3 letters are shortest: " + farSeen, farSeen > 0);
+        if (args.length < 2) {
+            // Fewer rounds, or others, may well see no such reader: that is no fault of the class.
+            check.yes("places are spent now and then: " + spentSeen, spentSeen > 0);
+            check.yes("and not spent: " + placesSeen, placesSeen > 0);
+            check.yes("rows of more than 3 letters are shortest: " + farSeen, farSeen > 0);
+        }
         check.end();
     }
 
