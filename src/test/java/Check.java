@@ -41,10 +41,37 @@ final class Check {
         }
     }
 
+    /** A reader gets moves, told with ; between: as many texts as that takes, each of as few bytes as may be. */
+    static void teach(NestReaders x, int reader, String moves) {
+        StringBuilder text = new StringBuilder();
+        int told = 0;
+        for (String move : moves.split(";")) {
+            if (told == 16 || text.length() + 1 + move.length() > 160) {
+                tell(x, text.toString());
+                x.moves(reader);
+                text.setLength(0);
+                told = 0;
+            }
+            text.append(told == 0 ? "" : ";").append(move);
+            told++;
+        }
+        tell(x, text.toString());
+        x.moves(reader);
+    }
+
     static long packed(String bytes) {
         long all = 0;
         for (int i = 0; i < bytes.length(); i++) {
             all |= (bytes.charAt(i) & 255L) << 8 * i;
+        }
+        return all;
+    }
+
+    /** Letters told as digits, as the call row takes them. */
+    static long packedRow(String letters) {
+        long all = 0;
+        for (int i = 0; i < letters.length(); i++) {
+            all |= (letters.charAt(i) - '0' & 7L) << 3 * i;
         }
         return all;
     }
