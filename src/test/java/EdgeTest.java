@@ -40,6 +40,7 @@ public final class EdgeTest {
         betweens();
         placesAlike();
         sixtyPlaces();
+        sixtyByWholeRows();
         sixtyPlacesOfBoth();
         shortest();
         first();
@@ -631,6 +632,25 @@ public final class EdgeTest {
             check.due("15 sixty again", x.places(reader), 60);
             check.due("21 not spent any more", x.watch(reader, 1), 7);
         }
+    }
+
+    /** The same, where each place is that of a whole row: whatever has no partner leads back to state 0. */
+    private static void sixtyByWholeRows() {
+        String back = "";
+        for (int state = 0; state < 3; state++) {
+            back += "S a to 0 put 0;S b to 0 put 0;S e take none to 0;S f take none to 0;".replace("S", "" + state);
+        }
+        String sixty = back + "0 e take 0 to 0;1 e take 0 to 0;2 e take 0 to 0;0 f take 0 to 0;1 f take 0 to 0;2 f take 0 to 0;"
+                + "0 c to 2;1 c to 0;1 c to 2;2 c to 1;0 d to 0;0 d to 1;1 d to 2;2 d to 1";
+        String more = back + "0 c to 1;0 c to 2;1 c to 2;2 c to 0;0 d to 0;1 d to 1;1 d to 2;2 d to 1;0 e take 0 to 0;"
+                + "0 e take 0 to 1;1 e take 0 to 1;2 e take 0 to 0;0 f take 0 to 0;0 f take 0 to 1;1 f take 0 to 2;2 f take 0 to 1";
+        check.due("15 so many", Oracle.places(oracles(3, 1, sixty), 99).size(), 60);
+        check.due("15 one more", Oracle.places(oracles(3, 1, more), 99).size(), 61);
+        check.due("15 sixty by whole rows", taught(0, 3, 1, 2, sixty).places(0), 60);
+        check.due("17 not spent", taught(0, 3, 1, 4, sixty).shortest(0), 1);
+        check.due("15 sixty one by whole rows", taught(0, 3, 1, 2, more).places(0), SPENT);
+        check.due("15 of both too", taught(1, 3, 1, 2, more).places(2), SPENT);
+        check.due("17 spent", taught(1, 3, 1, 4, more).shortest(1), SPENT);
     }
 
     /** The same of both readers, neither of which is spent. */

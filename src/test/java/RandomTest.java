@@ -25,6 +25,9 @@ public final class RandomTest {
         for (int round = 0; round < rounds; round++) {
             tryOut("round " + round);
         }
+        for (int round = 0; round < rounds; round++) {
+            tryDense("dense " + round);
+        }
         for (int round = 0; round < 20 * rounds; round++) {
             tryFar("sparse " + round);
         }
@@ -78,6 +81,40 @@ public final class RandomTest {
             tryTaken(name + " reader " + r, x, r, readers[r], spent[r]);
         }
         tryBoth(name, x, readers, spent[2]);
+    }
+
+    /** A reader with half of all moves that there can be: many runs, all states and marks on the way. */
+    private static void tryDense(String name) {
+        NestReaders x = new NestReaders();
+        int states = 1 + pick(3);
+        Oracle reader = new Oracle(states, 1 + pick(2), pick(1 << states));
+        x.reader(1, states, reader.marks, reader.takes);
+        StringBuilder moves = new StringBuilder();
+        for (int letter = 0; letter < 6; letter++) {
+            boolean plain = letter == 2 || letter == 3;
+            for (int mark = letter > 3 ? -1 : 0; mark < (plain ? 1 : reader.marks); mark++) {
+                for (int pair = 0; pair < 9; pair++) {
+                    if (pair / 3 < states && pair % 3 < states && pick(2) == 0) {
+                        List<Integer> move = List.of(pair / 3, letter, mark, pair % 3);
+                        reader.add(move);
+                        moves.append(moves.length() == 0 ? "" : ";").append(told(move));
+                    }
+                }
+            }
+        }
+        Check.teach(x, 1, moves.toString());
+        check.due(name + " moves", x.count(3), reader.moves().size());
+        for (int i = 0; i < 3; i++) {
+            String row = someRow(6 + pick(7));
+            Check.row(x, row);
+            for (int k = 0; k <= row.length(); k++) {
+                Map<String, Long> runs = reader.runs(row.substring(0, k), 0);
+                check.due(name + " " + row + " ends " + k, x.run(1, k, 0), Oracle.ends(runs));
+                check.due(name + " " + row + " runs " + k, x.run(1, k, 2), Oracle.number(runs));
+            }
+            int between = Oracle.isWhole(row) ? reader.between(row) : NestReaders.NOT;
+            check.due(name + " " + row + " between", x.between(1), between);
+        }
     }
 
     /** Readers with few moves and one state that takes: those whose shortest rows are long are held against the oracle. */
