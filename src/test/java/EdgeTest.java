@@ -476,20 +476,22 @@ public final class EdgeTest {
      * 1000000007)". A letter makes four times the runs of states 1 and 2, and lets 0 .. 3 more begin there.
      */
     private static void runs() {
-        NestReaders x = taught(0, 3, 2, 7, "0 a to 0 put 0;1 a to 1 put 0;1 a to 1 put 1;1 a to 2 put 0;1 a to 2 put 1;"
+        String moves = "0 a to 0 put 0;1 a to 1 put 0;1 a to 1 put 1;1 a to 2 put 0;1 a to 2 put 1;"
                 + "2 a to 1 put 0;2 a to 1 put 1;2 a to 2 put 0;2 a to 2 put 1;0 b to 0 put 0;1 b to 1 put 0;1 b to 1 put 1;"
                 + "1 b to 2 put 0;1 b to 2 put 1;2 b to 1 put 0;2 b to 1 put 1;2 b to 2 put 0;2 b to 2 put 1;"
                 + "0 b to 1 put 0;0 b to 1 put 1;0 b to 2 put 0;0 c to 0;1 c to 1;2 c to 2;0 c to 1;"
-                + "0 d to 0;1 d to 1;2 d to 2;0 d to 1;0 d to 2");
-        check.due("6 so many moves", x.count(2), 30);
+                + "0 d to 0;1 d to 1;2 d to 2;0 d to 1;0 d to 2";
+        check.due("6 so many moves", taught(0, 3, 2, 7, moves).count(2), 30);
         long[] numbers = {1, 2, 3, 4, 5, 64, 1000, MODULUS - 2, MODULUS - 1, MODULUS, MODULUS + 1, 2 * MODULUS - 1,
             2 * MODULUS, 2 * MODULUS + 1, 3 * MODULUS, Integer.MAX_VALUE, 1L << 31, 1L << 32};
         for (long number : numbers) {
             String letters = lettersFor(number - 1);
+            NestReaders x = taught(0, 3, 2, 7, moves);
             Check.row(x, letters);
             check.due("13 " + number + " runs of " + letters, x.run(0, letters.length(), 2), number % MODULUS);
             check.due("13 it is taken", x.run(0, letters.length(), 1), 1);
         }
+        NestReaders x = taught(0, 3, 2, 7, moves);
         Check.row(x, "02");
         check.due("13 on the first 0", x.run(0, 0, 2), 1);
         check.due("13 on the first 2", x.run(0, 2, 2), 2);

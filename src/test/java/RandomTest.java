@@ -66,8 +66,9 @@ public final class RandomTest {
             checkMoves(name, x, r, readers[r]);
         }
         for (int i = 0; i < 3; i++) {
-            tryRow(name, x, readers, 4 + 4 * i);
+            tryRow(name, readers, 4 + 4 * i);
         }
+        x = made(readers, "");
         boolean[] spent = new boolean[3];
         for (int r = 0; r < 3; r++) {
             List<Oracle> asked = r < 2 ? List.of(readers[r]) : List.of(readers);
@@ -78,9 +79,9 @@ public final class RandomTest {
             placesSeen += spent[r] ? 0 : 1;
         }
         for (int r = 0; r < 2; r++) {
-            tryTaken(name + " reader " + r, x, r, readers[r], spent[r]);
+            tryTaken(name + " reader " + r, made(readers, ""), r, readers[r], spent[r]);
         }
-        tryBoth(name, x, readers, spent[2]);
+        tryBoth(name, made(readers, ""), readers, spent[2]);
     }
 
     /** A reader with half of all moves that there can be: many runs, all states and marks on the way. */
@@ -211,9 +212,30 @@ public final class RandomTest {
         return row.toString();
     }
 
-    private static void tryRow(String name, NestReaders x, Oracle[] readers, int length) {
-        String row = someRow(length);
+    /** A new object with these readers and this row: no object is to be asked more than 512 times. */
+    private static NestReaders made(Oracle[] readers, String row) {
+        NestReaders x = new NestReaders();
+        for (int r = 0; r < 2; r++) {
+            x.reader(r, readers[r].states, readers[r].marks, readers[r].takes);
+            if (!readers[r].moves().isEmpty()) {
+                Check.teach(x, r, told(readers[r].moves()));
+            }
+        }
         Check.row(x, row);
+        return x;
+    }
+
+    private static String told(Set<List<Integer>> moves) {
+        StringBuilder all = new StringBuilder();
+        for (List<Integer> move : moves) {
+            all.append(all.length() == 0 ? "" : ";").append(told(move));
+        }
+        return all.toString();
+    }
+
+    private static void tryRow(String name, Oracle[] readers, int length) {
+        String row = someRow(length);
+        NestReaders x = made(readers, row);
         int[] partner = Oracle.partners(row);
         for (int i = 0; i < length; i++) {
             check.due(name + " " + row + " partner " + i, x.partner(i), partner[i]);
@@ -234,10 +256,11 @@ public final class RandomTest {
                 check.due(name + " " + part + " runs " + r, x.run(r, k, 2), Oracle.number(runs));
             }
         }
-        tryPlaces(name + " " + row, x, readers, row);
+        tryPlaces(name + " " + row, readers, row);
     }
 
-    private static void tryPlaces(String name, NestReaders x, Oracle[] readers, String row) {
+    private static void tryPlaces(String name, Oracle[] readers, String row) {
+        NestReaders x = made(readers, row);
         int length = row.length();
         for (int r = 0; r < 2; r++) {
             check.due(name + " between " + r, x.between(r),
@@ -249,12 +272,13 @@ public final class RandomTest {
             place[1][k] = readers[1].place(row.substring(0, k));
         }
         for (int i = 0; i <= length; i++) {
+            NestReaders y = made(readers, row);
             for (int j = 0; j <= length; j++) {
                 int one = place[0][i].equals(place[0][j]) ? 1 : 0;
                 int other = place[1][i].equals(place[1][j]) ? 1 : 0;
-                check.due(name + " alike 0 " + i + " " + j, x.alike(0, i, j), one);
-                check.due(name + " alike 1 " + i + " " + j, x.alike(1, i, j), other);
-                check.due(name + " alike 2 " + i + " " + j, x.alike(2, i, j), one & other);
+                check.due(name + " alike 0 " + i + " " + j, y.alike(0, i, j), one);
+                check.due(name + " alike 1 " + i + " " + j, y.alike(1, i, j), other);
+                check.due(name + " alike 2 " + i + " " + j, y.alike(2, i, j), one & other);
             }
         }
         for (int r = 0; r < 2; r++) {
