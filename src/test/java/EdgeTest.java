@@ -39,6 +39,7 @@ public final class EdgeTest {
         runs();
         betweens();
         placesAlike();
+        placesOfAllRows();
         sixtyPlaces();
         sixtyByWholeRows();
         sixtyPlacesOfBoth();
@@ -598,6 +599,35 @@ public final class EdgeTest {
         }
         int mark = word[3].equals("none") ? NONE : Integer.parseInt(word[3]);
         return List.of(from, letter, mark, Integer.parseInt(word[5]));
+    }
+
+    /** "PLACES of all rows: how many": of readers whose rows of at most 5 letters come to all of them. */
+    private static void placesOfAllRows() {
+        String[] readers = {"0 c to 0", Kinds.MATCHING, ALL, "0 c to 1;1 d to 0", "0 c to 1;1 d to 0;0 a to 1 put 0;1 e take 0 to 0",
+            "0 f take none to 1;1 f take none to 2;0 a to 2 put 1", "0 c to 1;1 c to 2;2 c to 0",
+            "0 a to 1 put 0;0 b to 1 put 1;1 f take 1 to 0;1 e take 0 to 2;2 e take none to 1"};
+        for (String one : readers) {
+            Oracle first = oracles(3, 2, one).get(0);
+            NestReaders x = taught(0, 3, 2, 4, one);
+            check.due("15 places of all rows of " + one, x.places(0), placesSeen(List.of(first), "", 5).size());
+            x.reader(1, 3, 2, 1);
+            Check.teach(x, 1, readers[3]);
+            List<Oracle> both = List.of(first, oracles(3, 2, readers[3]).get(0));
+            check.due("15 places of both, " + one, x.places(2), placesSeen(both, "", 5).size());
+        }
+    }
+
+    private static Set<String> placesSeen(List<Oracle> readers, String row, int more) {
+        StringBuilder place = new StringBuilder();
+        for (Oracle reader : readers) {
+            place.append(reader.place(row)).append(' ');
+        }
+        Set<String> seen = new HashSet<>();
+        seen.add(place.toString());
+        for (int letter = 0; letter < 6 && more > 0; letter++) {
+            seen.addAll(placesSeen(readers, row + letter, more - 1));
+        }
+        return seen;
     }
 
     /** "SPENT: more than 60." Of one reader: 60 by 6 moves, 61 by one more. */
